@@ -394,6 +394,9 @@ public final class PromisesTest {
     due("intime(0, 0)", x.intime(0, 0), 0);
     due("intime(0, 999)", x.intime(0, 999), 8);
     due("intime(2, 999)", x.intime(2, 999), 512);
+    due("slowest(2, 0)", x.slowest(2, 0), 19);
+    due("slowest(2, 1)", x.slowest(2, 1), 14);
+    due("slowest(2, 3)", x.slowest(2, 3), 1);
     x.arrival(0, 0, 9);
     // p(0) comes at 12 now, and the sum at 15 for all; out of 1 and 0 with the carry at 16.
     due("slowest: by a late A", x.slowest(0, 0), 16);
