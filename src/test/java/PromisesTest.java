@@ -590,7 +590,7 @@ public final class PromisesTest {
     due("choose: gates", x.choose(2, 9, 999, 0), 10);
     due("choose: six blocks", x.choose(6, 9, 999, 15), 1);
     due("choose: no seventh", x.choose(6, 9, 999, 16), -2);
-    // A RIPPLE of 4 comes at 19; l4 is too wide: of r and l l1l3 is one of those that come at 15.
+    // A RIPPLE of 4 bits comes at 19, however it is cut into blocks.
     due("choose: RIPPLE alone is late", x.choose(4, 1, 18, 2), 0);
     due("choose: RIPPLE alone is just in time", x.choose(4, 1, 19, 2), 7);
     due("choose: its latest", x.choose(4, 1, 999, 1), 19);
