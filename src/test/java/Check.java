@@ -1,14 +1,35 @@
+import java.io.IOException;
+import java.nio.file.Files;
+import java.nio.file.Path;
+
 /** Counts the answers that are not the ones that are due. */
 final class Check {
+  private static final Path DOCUMENT = Path.of("../shared/DOC.md");
+
   private int seen;
   private int wrong;
+  private String words = "";
+  private String document = "";
 
   void due(String call, long got, long want) {
     seen++;
     if (got != want) {
       wrong++;
-      System.out.println(call + " answered " + got + ", due is " + want);
+      System.out.println(words + call + " answered " + got + ", due is " + want);
     }
+  }
+
+  /**
+   * What follows holds the class against these words, which the document must
+   * hold just so: a test whose words are gone from it is to be looked at again.
+   */
+  void says(String itsWords) throws IOException {
+    if (document.isEmpty()) {
+      document = Files.readString(DOCUMENT).replaceAll("\\s+", " ");
+    }
+    words = "";
+    isTrue("the document says: " + itsWords, document.contains(itsWords));
+    words = "\"" + itsWords + "\": ";
   }
 
   void isTrue(String what, boolean holds) {
