@@ -54,6 +54,7 @@ public final class TermsTest {
     endsTooEarly();
     faultAheadOfFull();
     tapeIsEmpty();
+    firstOfSeveral();
     shelvesAtFirst();
     shelfSorts();
     bytesHaveASign();
@@ -779,6 +780,38 @@ public final class TermsTest {
     due("chosen(): BAD: THE TAPE", x.count(2), 1);
     due("feed(): BAD", x.feed(31) * 10 + x.count(2), -9);
     due("what was there goes on", x.feed('b') * 10 + x.find(), 18);
+  }
+
+  private static void firstOfSeveral() throws IOException {
+    says("of several the first as the call's words name them");
+    AdderChooser x = Check.with("a=r5");
+    x.row(1, 0, 1);
+    x.row(2, 1, 1);
+    x.shelve(3, 0);
+    due("slowest(): what, then LONG", x.slowest(0, 4) * 10 + x.slowest(0, 3), -17);
+    due("intime(): t, then LONG", x.intime(0, 1000) * 10 + x.intime(0, 999), -17);
+    due("plan(): what below -2, then no such BLOCK", x.plan(0, -3) * 10 + x.plan(0, 1), -12);
+    due("name(): i below -1, then no such letter", x.name(0, -2) * 10 + x.name(0, 1), -12);
+    due("choose(): what, then none in time", x.choose(1, 1, 0, 9) * 10 + x.choose(1, 1, 0, 10), -12);
+    due("row(): sort, then the size", x.row(0, 2, -1) * 100 + x.row(0, 1, -1), -114);
+    due("taken(): what, then nothing", x.taken(0, 3) * 100 + x.taken(0, 2), -111);
+    due("taken(): what, then another sort", x.taken(1, 3) * 100 + x.taken(1, 2), -112);
+    due("put(): SHELF, then nothing", x.put(4, -1, 0) * 100 + x.put(0, -1, 0), -111);
+    due("put(): BLOCKS, then the place", x.put(3, -1, 0) * 100 + x.put(1, -1, 0), -1213);
+    due("into(): PLAN, then nothing", x.into(0, 1) * 100 + x.into(0, 0), -111);
+    due("into(): PLAN, then another sort", x.into(2, 1) * 100 + x.into(2, 0), -112);
+    due("from(): side, then nothing", x.from(0, 2) * 100 + x.from(0, 1), -111);
+    due("from(): side, then another sort", x.from(1, 2) * 100 + x.from(1, 1), -112);
+    says("LONG (-7): WIDTH is above what is told");
+    due("5 bits", x.slowest(0, 0), -7);
+    due("4 bits", Check.read(x, "a=r4") * 100 + x.slowest(0, 0), 19);
+    due("5 bits in two BLOCKS", Check.read(x, "a=r4s1") * 100 + x.intime(0, 0), -7);
+    says("read(): the FAULT is looked at first, then FULL");
+    for (int i = 1; i < 12; i++) {
+      Check.read(x, (char) ('a' + i) + "=r1");
+    }
+    due("a FAULT where it is FULL", Check.read(x, "z=") * 10 + x.count(2), -1020);
+    due("FULL", Check.read(x, "z=r1") * 10 + x.count(2), -30);
   }
 
   private static void shelvesAtFirst() throws IOException {
